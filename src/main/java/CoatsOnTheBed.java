@@ -1193,8 +1193,8 @@ public final class CoatsOnTheBed {
             int bestMinute = 0;
             for (int h = 0; h < bed.heaps; h++) {
                 int top = bed.topOf(h);
-                if (top != NONE && hasRoom(h) && going[top] > minute
-                        && (best == NONE || going[top] < bestMinute)) {
+                boolean later = top != NONE && hasRoom(h) && going[top] > minute;
+                if (later && (best == NONE || going[top] < bestMinute)) {
                     best = h;
                     bestMinute = going[top];
                 }
