@@ -3,8 +3,8 @@ import java.util.Collections;
 import java.util.List;
 
 /**
- * The document a second time, by lists and by trying all, without a look at the class: what
- * both tell is most likely what the document tells.
+ * The document a second time, by lists and by trying all. It shows slips of the class, but not a
+ * misreading of the document: both were written by one reader.
  */
 final class Model {
     static final class Guest {
