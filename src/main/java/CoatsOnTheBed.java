@@ -870,22 +870,25 @@ public final class CoatsOnTheBed {
         /** The place of the first byte with which no room can go on, or NONE. */
         static int brokenAt(Shelf text) {
             int at = 0;
-            do {
+            // one statement at least is looked for, and each takes an element at least
+            for (int k = 0; k == 0 || k < MOST_ELEMENTS && at < text.size; k++) {
                 int broken = brokenIn(text, at);
                 if (broken != NONE) {
                     return broken;
                 }
                 at += lengthOf(text, at);
-            } while (at < text.size);
+            }
             return NONE;
         }
 
         /** The place of the first statement that is not as it must be, or NONE; those ahead come. */
         static int senselessAt(Shelf text, Room draft) {
-            for (int at = 0; at < text.size; at += lengthOf(text, at)) {
+            int at = 0;
+            for (int k = 0; k < MOST_ELEMENTS && at < text.size; k++) {
                 if (!comesTrue(text, at, draft)) {
                     return at;
                 }
+                at += lengthOf(text, at);
             }
             return NONE;
         }

@@ -50,6 +50,18 @@ final class Rooms {
         return 0;
     }
 
+    /** What is left of a great number in a row's first element, which then is as it was. */
+    private static long sortOf(CoatsOnTheBed x, int d) {
+        if (thrown(x, d, 0) != 0) {
+            return 0;
+        }
+        int before = (int) x.element(d, 0);
+        x.put(d, 0, 70000);
+        long left = x.element(d, 0);
+        x.put(d, 0, before);
+        return left;
+    }
+
     /** All that the calls can tell of a room, and of its shelves. */
     static String all(CoatsOnTheBed x) {
         StringBuilder s = new StringBuilder();
@@ -66,6 +78,7 @@ final class Rooms {
         }
         for (int d = 0; d < 8; d++) {
             s.append(x.cost(d)).append(':').append(x.toss(d)).append(':');
+            s.append(x.put(d, -1, 0)).append(':').append(sortOf(x, d)).append(':');
             for (int i = 0; i < 101; i++) {
                 try {
                     s.append(x.element(d, i)).append(',');
