@@ -6,9 +6,13 @@ import java.lang.reflect.Method;
 import java.lang.reflect.Modifier;
 import java.nio.file.Files;
 import java.nio.file.Path;
+import java.util.HashMap;
 import java.util.HashSet;
 import java.util.List;
+import java.util.Map;
 import java.util.Set;
+import java.util.regex.Matcher;
+import java.util.regex.Pattern;
 
 /** Some of the rules of LANGUAGE.md that can be seen from outside or in the text. */
 public final class LanguageTest {
@@ -31,6 +35,19 @@ public final class LanguageTest {
         "catch (Exception", "catch (Throwable", "catch (RuntimeException", "protected ",
         "toString", "hashCode", ".equals(", "record ", "lambda", "while (true)", "for (;;)"};
 
+    private static final Set<Class<?>> STATIC_TYPES = Set.of(int.class, long.class, boolean.class,
+            char.class, String.class, int[].class, long[].class, char[].class, byte[].class);
+    private static final Set<String> LIBRARY =
+            Set.of("Math.max", "Math.min", "Integer.bitCount", "System.arraycopy");
+    private static final Set<String> THROWN = Set.of("IllegalStateException",
+            "IllegalArgumentException", "UnsupportedOperationException");
+    private static final Pattern METHOD = Pattern.compile(
+            "^( {4}(?: {4})?)(?:(?:public|private|static|final) )*[\\w\\[\\]]+ (\\w+)\\([^()]*\\)"
+            + "(?: throws [\\w, ]+)? \\{\n(.*?\n)\\1\\}\n", Pattern.MULTILINE | Pattern.DOTALL);
+    private static final Pattern CALLED = Pattern.compile("(?<!new )\\b(\\w+)\\(");
+    private static final Pattern OF_LIBRARY = Pattern.compile("\\b([A-Z][a-z]\\w*\\.\\w+)\\(");
+    private static final int DEEPEST = 8;
+
     private static final Check C = new Check();
 
     private LanguageTest() {
@@ -39,7 +56,9 @@ public final class LanguageTest {
     public static void main(String[] args) throws IOException {
         face();
         insides();
+        statics();
         text();
+        methods();
         C.end();
     }
 
@@ -102,6 +121,19 @@ public final class LanguageTest {
         }
     }
 
+    private static void statics() {
+        C.part("rule 5");
+        Set<Class<?>> all = new HashSet<>(List.of(CoatsOnTheBed.class.getDeclaredClasses()));
+        all.add(CoatsOnTheBed.class);
+        for (Class<?> type : all) {
+            for (Field f : type.getDeclaredFields()) {
+                boolean fixed = Modifier.isStatic(f.getModifiers());
+                C.holds(f + " static is of a type that may be",
+                        !fixed || STATIC_TYPES.contains(f.getType()));
+            }
+        }
+    }
+
     private static boolean isOfFace(Member m) {
         for (String call : FACE) {
             if (call.contains(" " + m.getName() + "(")) {
@@ -136,5 +168,70 @@ public final class LanguageTest {
                 C.holds("at most sixty lines: " + lines[i], last - i < 60);
             }
         }
+    }
+
+    private static void methods() throws IOException {
+        String text = Files.readString(Path.of("src", "main", "java", "CoatsOnTheBed.java"));
+        Map<String, String> bodies = new HashMap<>();
+        Matcher method = METHOD.matcher(text);
+        while (method.find()) {
+            boolean isNew = bodies.put(method.group(2), method.group(3)) == null;
+            C.part("what this test leans on");
+            C.holds(method.group(2) + " is the name of one method alone", isNew);
+            exceptions(method.group(2), method.group(3));
+        }
+        C.holds("all methods are seen", bodies.size() >= FACE.length + 80);
+        libraryOf(text, bodies);
+        C.part("rules 8, 11");
+        for (String call : FACE) {
+            String name = call.substring(call.indexOf(' ') + 1, call.indexOf('('));
+            C.holds(name + " is seen", bodies.containsKey(name));
+            C.holds(name + " goes at most eight deep", depthOf(name, bodies, 0) <= DEEPEST);
+        }
+    }
+
+    private static void exceptions(String name, String body) {
+        C.part("rule 6");
+        boolean throwsOne = body.contains("throw ");
+        C.holds(name + " throws and tries", !(throwsOne && body.contains("try {")));
+        Matcher thrown = Pattern.compile("(?:throw new|catch \\() *(\\w+)").matcher(body);
+        while (thrown.find()) {
+            C.holds(name + ": " + thrown.group(1), THROWN.contains(thrown.group(1)));
+        }
+    }
+
+    /** What is called with a class's name ahead is the library's, or a method of a class inside. */
+    private static void libraryOf(String text, Map<String, String> bodies) {
+        C.part("rule 4");
+        Matcher call = OF_LIBRARY.matcher(text);
+        while (call.find()) {
+            String name = call.group(1).substring(call.group(1).indexOf('.') + 1);
+            C.holds(call.group(1) + " may be called",
+                    LIBRARY.contains(call.group(1)) || bodies.containsKey(name));
+        }
+    }
+
+    /** How many calls stand open at most, the library's too; a method that calls itself is too deep. */
+    private static int depthOf(String name, Map<String, String> bodies, int open) {
+        if (!bodies.containsKey(name) || open > DEEPEST) {
+            return 1;
+        }
+        int deepest = 0;
+        Matcher called = CALLED.matcher(bodies.get(name));
+        while (called.find()) {
+            String other = called.group(1);
+            boolean isCall = bodies.containsKey(other) || isOfLibrary(other);
+            deepest = isCall ? Math.max(deepest, depthOf(other, bodies, open + 1)) : deepest;
+        }
+        return deepest + 1;
+    }
+
+    private static boolean isOfLibrary(String name) {
+        for (String call : LIBRARY) {
+            if (call.endsWith("." + name)) {
+                return true;
+            }
+        }
+        return false;
     }
 }
